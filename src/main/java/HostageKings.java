@@ -40,12 +40,11 @@ public final class HostageKings {
 
   private final Realm realm = new Realm();
   private final Realm kept = new Realm();
-  /** What would be is tried here; all tries share it, so that a call makes no objects. */
+  /** What would be is tried here, again and again, so that a call makes no objects. */
   private final Realm trial = new Realm();
-  private final Planner planner = new Planner(trial);
-  private final Route route = new Route(trial);
+  private final Planner planner = new Planner();
+  private final Route route = new Route();
   private final Tape tape = new Tape();
-  private final TextReader reader = new TextReader(tape);
   private final Sheet[] sheets = new Sheet[SHEETS];
   private final int[] answered = new int[FINDINGS];
   private boolean isKept;
@@ -468,10 +467,10 @@ public final class HostageKings {
 
   public int court() {
     trial.become(realm);
-    int items = reader.readInto(trial);
+    int items = tape.readInto(trial);
     tape.size = 0;
     if (items < 0) {
-      return -1 - reader.start;
+      return -1 - tape.start;
     }
     realm.become(trial);
     return items;
@@ -698,7 +697,7 @@ public final class HostageKings {
     final int[] tos = new int[MAX_TREATIES];
     final int[] gains = new int[MAX_TREATIES];
     final int[] untils = new int[MAX_TREATIES];
-    /** By holder, what is held of the one king that is being looked at. */
+    /** By holder, what is held of the one king whose words are looked at. */
     private final int[] pledges = new int[KINGS];
     int children;
     int treaties;
@@ -749,10 +748,6 @@ public final class HostageKings {
       return (deadSet >> child & 1) != 0;
     }
 
-    boolean isAtHome(int child) {
-      return holders[child] == fathers[child];
-    }
-
     boolean isBroken(int treaty) {
       return (brokenSet >> treaty & 1) != 0;
     }
@@ -762,6 +757,11 @@ public final class HostageKings {
     }
 
     int lossOf(int child) {
+      return lossBeside(twinsAtHome(fathers[child]), child);
+    }
+
+    /** The loss of a child whose father has those twins at home (told, to be sought but once). */
+    private int lossBeside(int twins, int child) {
       if (isDead(child)) {
         return 0;
       }
@@ -776,20 +776,20 @@ public final class HostageKings {
         case LOST:
           return Math.max(0, asChild / 2 - 5);
         case TWIN:
-          return hasTwinAtHome(child) ? asChild : 2 * asChild;
+          return (twins & ~(1 << child)) != 0 ? asChild : 2 * asChild;
         default:
           return asChild;
       }
     }
 
-    private boolean hasTwinAtHome(int child) {
+    private int twinsAtHome(int father) {
+      int set = 0;
       for (int c = 0; c < children; c++) {
-        if (c != child && kinds[c] == TWIN && fathers[c] == fathers[child]
-            && isAtHome(c) && !isDead(c)) {
-          return true;
+        if (kinds[c] == TWIN && fathers[c] == father && holders[c] == father && !isDead(c)) {
+          set |= 1 << c;
         }
       }
-      return false;
+      return set;
     }
 
     int rolledHolder(int child) {
@@ -840,25 +840,19 @@ public final class HostageKings {
     }
 
     int pledgeHeld(int holder, int father) {
-      sumPledgesOf(father);
-      return pledges[holder];
-    }
-
-    private void sumPledgesOf(int father) {
-      for (int holder = 0; holder < KINGS; holder++) {
-        pledges[holder] = 0;
-      }
+      int sum = 0;
       for (int c = 0; c < children; c++) {
-        if (fathers[c] == father) {
-          pledges[holders[c]] += lossOf(c);
+        if (holders[c] == holder && fathers[c] == father) {
+          sum += lossOf(c);
         }
       }
+      return sum;
     }
 
     int lossesAbroad() {
       int sum = 0;
       for (int c = 0; c < children; c++) {
-        if (!isAtHome(c)) {
+        if (holders[c] != fathers[c]) {
           sum += lossOf(c);
         }
       }
@@ -909,7 +903,15 @@ public final class HostageKings {
 
     /** A king's words hang on his own children alone: so planning looks again at few kings. */
     int looseWordsOf(int king) {
-      sumPledgesOf(king);
+      for (int holder = 0; holder < KINGS; holder++) {
+        pledges[holder] = 0;
+      }
+      int twins = twinsAtHome(king);
+      for (int c = 0; c < children; c++) {
+        if (fathers[c] == king) {
+          pledges[holders[c]] += lossBeside(twins, c);
+        }
+      }
       int set = 0;
       for (int t = 0; t < treaties; t++) {
         if (bys[t] == king && isInForce(t) && gains[t] > pledges[tos[t]] + fears[king]) {
@@ -969,16 +971,12 @@ public final class HostageKings {
     }
   }
 
-  /** Seeks the fewest children whose moving makes all hold. */
+  /** Seeks the fewest children whose moving makes all hold. A move's code tells child and holder. */
   private static final class Planner {
-    private final Realm trial;
+    private final Realm trial = new Realm();
     private int looseKings;
     int first;
     int second;
-
-    Planner(Realm trial) {
-      this.trial = trial;
-    }
 
     /** How many moves the first plan has; -1 if there is no plan. */
     int plan(Realm from) {
@@ -992,65 +990,67 @@ public final class HostageKings {
       if (looseKings == 0) {
         return 0;
       }
-      if (findOne()) {
+      if (findOne(from)) {
         return 1;
       }
-      return findTwo() ? 2 : -1;
+      return findTwo(from) ? 2 : -1;
     }
 
-    private boolean findOne() {
-      for (int c = 0; c < trial.children; c++) {
-        if (trial.isDead(c) || !mayMend(c, c)) {
+    private boolean findOne(Realm from) {
+      int codes = KINGS * from.children;
+      for (int code = 0; code < codes; code++) {
+        int c = code / KINGS;
+        if (!isMove(from, code) || !mayMend(c, c)) {
           continue;
         }
-        int was = trial.holders[c];
-        for (int holder = 0; holder < KINGS; holder++) {
-          trial.holders[c] = holder;
-          if (holder != was && trial.looseWordsOf(trial.fathers[c]) == 0) {
-            first = KINGS * c + holder;
-            return true;
-          }
+        trial.holders[c] = code % KINGS;
+        if (allHold(c, c)) {
+          first = code;
+          return true;
         }
-        trial.holders[c] = was;
+        trial.holders[c] = from.holders[c];
       }
       return false;
     }
 
-    private boolean findTwo() {
-      for (int c = 0; c < trial.children; c++) {
-        if (trial.isDead(c)) {
+    private boolean findTwo(Realm from) {
+      int codes = KINGS * from.children;
+      for (int code = 0; code < codes; code++) {
+        int c = code / KINGS;
+        if (!isMove(from, code)) {
           continue;
         }
-        int was = trial.holders[c];
-        for (int holder = 0; holder < KINGS; holder++) {
-          trial.holders[c] = holder;
-          if (holder != was && findSecond(c)) {
-            first = KINGS * c + holder;
-            return true;
-          }
+        trial.holders[c] = code % KINGS;
+        if (findGreater(from, c)) {
+          first = code;
+          return true;
         }
-        trial.holders[c] = was;
+        trial.holders[c] = from.holders[c];
       }
       return false;
     }
 
     /** The lesser child stands already where the plan has it. */
-    private boolean findSecond(int lesser) {
-      for (int c = lesser + 1; c < trial.children; c++) {
-        if (trial.isDead(c) || !mayMend(lesser, c)) {
+    private boolean findGreater(Realm from, int lesser) {
+      int codes = KINGS * from.children;
+      for (int code = KINGS * (lesser + 1); code < codes; code++) {
+        int c = code / KINGS;
+        if (!isMove(from, code) || !mayMend(lesser, c)) {
           continue;
         }
-        int was = trial.holders[c];
-        for (int holder = 0; holder < KINGS; holder++) {
-          trial.holders[c] = holder;
-          if (holder != was && bothHold(trial.fathers[lesser], trial.fathers[c])) {
-            second = KINGS * c + holder;
-            return true;
-          }
+        trial.holders[c] = code % KINGS;
+        if (allHold(lesser, c)) {
+          second = code;
+          return true;
         }
-        trial.holders[c] = was;
+        trial.holders[c] = from.holders[c];
       }
       return false;
+    }
+
+    private static boolean isMove(Realm from, int code) {
+      int c = code / KINGS;
+      return !from.isDead(c) && from.holders[c] != code % KINGS;
     }
 
     /** Moving children leaves loose what other kings than their fathers have loose. */
@@ -1059,24 +1059,24 @@ public final class HostageKings {
       return (looseKings & ~fathers) == 0;
     }
 
-    private boolean bothHold(int one, int other) {
-      return trial.looseWordsOf(one) == 0 && (one == other || trial.looseWordsOf(other) == 0);
+    /** Behind mayMend, only the words of the two fathers are left to be looked at. */
+    private boolean allHold(int one, int other) {
+      int father = trial.fathers[one];
+      int next = trial.fathers[other];
+      return trial.looseWordsOf(father) == 0
+          && (father == next || trial.looseWordsOf(next) == 0);
     }
   }
 
   /** Seeks the order in which children are moved so that no word is loose behind any move. */
   private static final class Route {
-    private final Realm trial;
+    private final Realm trial = new Realm();
     private final int[] movers = new int[MAX_CHILDREN];
     private final int[] aims = new int[MAX_CHILDREN];
     /** By the set of those moved: whether that holds and the rest can follow. */
     private final boolean[] leadsOn = new boolean[1 << MAX_MOVED];
     final int[] order = new int[MAX_MOVED];
     int moved;
-
-    Route(Realm trial) {
-      this.trial = trial;
-    }
 
     void aim(Realm from, Sheet sheet) {
       moved = 0;
@@ -1137,20 +1137,8 @@ public final class HostageKings {
     }
   }
 
-  /** Bytes that the text of a court is read from. */
+  /** The tape, read token by token; the token looked at is the fault if it can't stand there. */
   private static final class Tape {
-    final int[] bytes = new int[MAX_TAPE];
-    int size;
-
-    /** Only while there are fewer than MAX_TAPE. */
-    void add(int b) {
-      bytes[size] = b;
-      size++;
-    }
-  }
-
-  /** Reads the text of a court, token by token; the token looked at is the fault if it can't stand. */
-  private static final class TextReader {
     private static final int END = 0;
     private static final int WORD = 1;
     private static final int NUMBER = 2;
@@ -1159,15 +1147,18 @@ public final class HostageKings {
     private static final int MAX_NUMBER = 999;
     private static final int WORTH_UNTOLD = 10;
 
-    private final Tape tape;
+    private final int[] bytes = new int[MAX_TAPE];
+    int size;
     private int token;
     /** Place of the first byte of the token looked at, or behind all bytes at the end. */
     int start;
     private int end;
     private int value;
 
-    TextReader(Tape tape) {
-      this.tape = tape;
+    /** Only while there are fewer than MAX_TAPE. */
+    void add(int b) {
+      bytes[size] = b;
+      size++;
     }
 
     /** How many items came to a realm; -1 with a fault, at start (the realm is spoilt then). */
@@ -1290,45 +1281,37 @@ public final class HostageKings {
         return false;
       }
       for (int i = 0; i < word.length(); i++) {
-        if (tape.bytes[start + i] != word.charAt(i)) {
+        if (bytes[start + i] != word.charAt(i)) {
           return false;
         }
       }
       return true;
     }
 
+    /** Looks at the next token. A number above MAX_NUMBER stays just above it, however long. */
     private void advance() {
       start = end;
-      while (start < tape.size && tape.bytes[start] == ' ') {
+      while (start < size && bytes[start] == ' ') {
         start++;
       }
       end = start;
-      if (start >= tape.size) {
-        token = END;
-      } else if (isLetter(tape.bytes[start])) {
-        scanWord();
-      } else if (isDigit(tape.bytes[start])) {
-        scanNumber();
-      } else {
-        token = tape.bytes[start] == ';' ? SIGN : NO_TOKEN;
-        end = start + 1;
-      }
-    }
-
-    private void scanWord() {
-      token = WORD;
-      while (end < tape.size && isLetter(tape.bytes[end])) {
-        end++;
-      }
-    }
-
-    /** A number above MAX_NUMBER stays just above it, however many digits it has. */
-    private void scanNumber() {
-      token = NUMBER;
       value = 0;
-      while (end < tape.size && isDigit(tape.bytes[end])) {
-        value = Math.min(10 * value + tape.bytes[end] - '0', MAX_NUMBER + 1);
-        end++;
+      if (start >= size) {
+        token = END;
+      } else if (isLetter(bytes[start])) {
+        token = WORD;
+        while (end < size && isLetter(bytes[end])) {
+          end++;
+        }
+      } else if (isDigit(bytes[start])) {
+        token = NUMBER;
+        while (end < size && isDigit(bytes[end])) {
+          value = Math.min(10 * value + bytes[end] - '0', MAX_NUMBER + 1);
+          end++;
+        }
+      } else {
+        token = bytes[start] == ';' ? SIGN : NO_TOKEN;
+        end = start + 1;
       }
     }
 

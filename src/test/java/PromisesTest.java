@@ -135,6 +135,8 @@ public final class PromisesTest {
     x.months(1);
     due("kingOf(2, 3) less one over and one broken", x.kingOf(2, 3), 0b0100);
     due("kingOf(3, 3)", x.kingOf(3, 3), 0b0010);
+    x.move(0, 0);
+    due("kingOf(0, 2)", x.kingOf(0, 2), 0b00001);
     due("kingOf(6, 0)", x.kingOf(6, 0), BEYOND);
     due("kingOf(-1, 0)", x.kingOf(-1, 0), BEYOND);
     due("kingOf(2, 4)", x.kingOf(2, 4), BEYOND);
@@ -816,6 +818,8 @@ public final class PromisesTest {
     due("nothing is moved", x.of(2, 2), 1);
     movesOfTwo();
     movesOfTwins();
+    movesToTheFirstKing();
+    movesPutBack();
   }
 
   private static void dueMoves(HostageKings x, int many, int first, int second) {
@@ -871,6 +875,40 @@ public final class PromisesTest {
     dueMoves(x, 1, 1 * 6 + 1, NONE);
   }
 
+  private static void movesToTheFirstKing() {
+    HostageKings x = fresh();
+    x.treaty(3, 0, 10, 999);
+    x.child(0, 3, 10);
+    dueMoves(x, 1, 0, NONE);
+    x.treaty(4, 0, 10, 999);
+    due("each has his own", x.moves(0), NONE);
+    x.child(0, 4, 10);
+    dueMoves(x, 2, 0, 6);
+    x.fear(3, 10);
+    dueMoves(x, 1, 6, NONE);
+    x.fear(4, 10);
+    dueMoves(x, 0, NONE, NONE);
+  }
+
+  /** One child holds a word where it is: only plans that leave it there are good. */
+  private static void movesPutBack() {
+    for (int stays = 0; stays < 3; stays++) {
+      HostageKings x = fresh();
+      for (int c = 0; c < 3; c++) {
+        x.child(0, 0, c == stays ? 30 : 10);
+      }
+      x.move(stays, 1);
+      x.treaty(0, 1, 30, 999);
+      x.treaty(0, 2, 10, 999);
+      int lesser = stays == 0 ? 1 : 0;
+      int greater = stays == 2 ? 1 : 2;
+      dueMoves(x, 1, 6 * lesser + 2, NONE);
+      x.treaty(0, 3, 10, 999);
+      dueMoves(x, 2, 6 * lesser + 2, 6 * greater + 3);
+      due("nobody is moved", x.loose(), 0b110);
+    }
+  }
+
   private static void p28() {
     HostageKings x = fresh();
     x.child(0, 0, 10);
@@ -889,6 +927,12 @@ public final class PromisesTest {
     x.gain(2, 10);
     x.move(0, 4);
     due("its holder now, too", x.best(0), 4);
+    HostageKings y = fresh();
+    y.child(0, 0, 10);
+    for (int t = 0; t < 12; t++) {
+      y.treaty(0, t == 5 ? 3 : 4, t == 5 ? 10 : 11, 999);
+    }
+    due("eleven loose are fewer than twelve", y.best(0), 3);
     due("best(1)", x.best(1), BEYOND);
     due("best(-1)", x.best(-1), BEYOND);
     for (int far : FAR) {
@@ -934,6 +978,11 @@ public final class PromisesTest {
     for (int far : FAR) {
       due("key(far)", x.key(far), BEYOND);
     }
+    HostageKings z = fresh();
+    abroad(z, 0, 1, 2, 10);
+    z.treaty(1, 2, 10, 999);
+    due("another king's child", z.key(0), NONE);
+    due("his own", z.key(1), 0);
     // a TWIN who comes home makes his brother abroad worth half
     HostageKings y = fresh();
     abroad(y, 5, 4, 0, 10);
@@ -1066,6 +1115,11 @@ public final class PromisesTest {
     laySheet(x, 2, 2, 2, 2, 2, 1, 2, 2, 1, 0, 2);
     due("eight, one of them dead", x.way(2, -1), STATE);
     due("eight, one of them dead", x.way(2, 7), STATE);
+    x.dies(0);
+    laySheet(x, 2, 2, 2);
+    due("two, the first one dead", x.way(2, 0), STATE);
+    laySheet(x, 2, 0, 2);
+    dueWay(x, 2, 1);
   }
 
   private static void dueEight(HostageKings x) {
@@ -1131,6 +1185,9 @@ public final class PromisesTest {
     due("it comes to what there is", x.count(0), 6);
     due("the last fear stays", told(x, "king 0 fear 1;king 0 fear 99"), 2);
     due("the last fear stays", x.kingOf(0, 0), 99);
+    due("the least fear, the last king", told(x, "king 0 fear 0;heir of 0 with 5 worth 99"), 2);
+    due("kingOf(0, 0)", x.kingOf(0, 0), 0);
+    dueChild(x, 6, 1, 0, 5, 99);
     due("no findings", x.status(-1), 0);
     due("a number is as long as can be", told(x, "king 00000000000000000000000000000 fear 0000000000000000005"), 1);
     due("kingOf(0, 0)", x.kingOf(0, 0), 5);
@@ -1149,7 +1206,8 @@ public final class PromisesTest {
   private static void faults() {
     String[] texts = {
       "^", "   ^", "^;", "king 0 fear 1;^", "king 0 fear 1; ^", "king 0 fear 1;^;king 0 fear 1",
-      "^5", "^fear 1", "^kings 0 fear 1", "^kin", "king^" + (char) 233 + " 0", "^KING 0 fear 1",
+      "^5", "^fear 1", "^kings 0 fear 1", "^kin", "king^" + (char) 233 + " 0", "^KING 0 fear 1", "^kingz 0 fear 1", "^xing 0 fear 1", "^kinx 0", "king^`0", "king^{0",
+      "king 0 fear 1^/", "king 0 fear 1^:",
       "king^", "king ^", "king ^6 fear 1", "king ^fear 1", "king 0^", "king 0 ^1", "king 0 ^of",
       "king 0 fear^", "king 0 fear ^100", "king 0 fear ^1000", "king 0 fear ^99999999999999999999",
       "king 0 fear ^;", "king 0 fear 1 ^2", "king 0 fear 1 ^king 0 fear 1", "king 0 ^,fear 1",
@@ -1230,8 +1288,10 @@ public final class PromisesTest {
     due("sheet(0, 0, 41)", x.sheet(0, 0, 41), BEYOND);
     due("sheet(0, 8, max)", x.sheet(0, 8, Integer.MAX_VALUE), BEYOND);
     due("nothing changed", x.write(0, 39, 6), 5);
+    x.write(0, 0, 5);
     due("sheet(0, 16, 40)", x.sheet(0, 16, 40), 40);
     due("all 0", x.write(0, 39, 7), 0);
+    due("all 0", x.write(0, 0, 7), 0);
     due("sheet(0, 0, 40)", x.sheet(0, 0, 40), 0);
     due("missing", x.write(0, 39, 7), MISSING);
     due("sheet(0, 0, 0)", x.sheet(0, 0, 0), 0);
@@ -1338,6 +1398,10 @@ public final class PromisesTest {
     due("as far as it has numbers", x.lays(1), 1);
     due("holder of 0", x.of(0, 2), 5);
     due("holder of 1", x.of(1, 2), 3);
+    laySheet(x, 3, 0, 5);
+    due("the first king, the last king", x.lays(3), 2);
+    due("holder of 0", x.of(0, 2), 0);
+    due("holder of 1", x.of(1, 2), 5);
     x.sheet(2, 16, 0);
     due("of no numbers", x.lays(2), 0);
     due("no sheet", x.lays(4), BEYOND);
