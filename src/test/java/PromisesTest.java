@@ -36,6 +36,7 @@ public final class PromisesTest {
       promise++;
       next.run();
     }
+    fullCourt();
     System.out.println(asked + " answers looked at, " + wrong + " not as due");
     if (wrong != 0) {
       System.exit(1);
@@ -69,6 +70,75 @@ public final class PromisesTest {
     for (int i = 0; i < numbers.length; i++) {
       x.write(s, i, numbers[i]);
     }
+  }
+
+  /** As many children and treaties as can be: every act still answers (promises 3 to 40). */
+  private static void fullCourt() {
+    HostageKings x = fresh();
+    for (int c = 0; c < 14; c++) {
+      abroad(x, 0, c < 7 ? 0 : 5, c < 7 ? 5 : 0, 10);
+    }
+    for (int t = 0; t < 12; t++) {
+      x.treaty(t < 6 ? 0 : 5, t < 6 ? 5 : 0, t == 11 ? 71 : 70, 999);
+    }
+    promise = 3;
+    due("kingOf(5, 1)", x.kingOf(5, 1), 0b11111110000000);
+    due("kingOf(0, 2)", x.kingOf(0, 2), 0b11111110000000);
+    due("kingOf(5, 3)", x.kingOf(5, 3), 0b111111000000);
+    promise = 15;
+    due("pledge(0, 5)", x.pledge(0, 5), 70);
+    promise = 17;
+    due("loose()", x.loose(), 0b100000000000);
+    promise = 18;
+    due("pact(0, 5)", x.pact(0, 5), 0);
+    due("pact(4, 5)", x.pact(4, 5), 1);
+    promise = 19;
+    due("plot()", x.plot(), 1);
+    promise = 21;
+    due("wouldFall(0)", x.wouldFall(0), 2);
+    due("wouldFall(1)", x.wouldFall(1), 0b111111000000);
+    due("wouldFall(2)", x.wouldFall(2), 0b11111110000000);
+    promise = 22;
+    due("pulls(0)", x.pulls(0), 0b111111111111);
+    promise = 23;
+    due("keystone()", x.keystone(), 0);
+    promise = 25;
+    due("now(1)", x.now(1), 12);
+    due("now(3)", x.now(3), 14);
+    due("now(4)", x.now(4), 0);
+    promise = 26;
+    due("on(120)", x.on(120), 0b000000111111);
+    promise = 27;
+    dueMoves(x, NONE, NONE, NONE);
+    x.move(13, 5);
+    x.move(12, 5);
+    x.gain(11, 70);
+    dueMoves(x, 2, 6 * 12, 6 * 13);
+    x.move(12, 0);
+    dueMoves(x, 1, 6 * 13, NONE);
+    promise = 28;
+    due("best(13)", x.best(13), 0);
+    x.move(13, 0);
+    promise = 29;
+    due("key(5)", x.key(5), 7);
+    due("key(1)", x.key(1), NONE);
+    promise = 30;
+    due("toFree(5, 0)", x.toFree(5, 0), 0b11111110000000);
+    due("toFree(5, 1)", x.toFree(5, 1), 0);
+    promise = 31;
+    laySheet(x, 0, 5, 5, 5, 5, 5, 5, 5, 0, 0, 0, 0, 0, 0, 0);
+    dueWay(x, 0);
+    laySheet(x, 1, 4, 4, 4, 4, 4, 4, 4, 4, 4, 4, 4, 4, 4, 4);
+    due("fourteen", x.way(1, -1), SIZE);
+    promise = 40;
+    due("read(0)", x.read(0), 0);
+    promise = 44;
+    due("count(3)", x.count(3), 140);
+    promise = 20;
+    x.gain(11, 71);
+    due("fall()", x.fall(), 2);
+    due("now(3)", x.now(3), 7);
+    due("now(2)", x.now(2), 6);
   }
 
   private static void p1() {
@@ -1119,6 +1189,11 @@ public final class PromisesTest {
     laySheet(x, 2, 2, 2);
     due("two, the first one dead", x.way(2, 0), STATE);
     laySheet(x, 2, 0, 2);
+    dueWay(x, 2, 1);
+    x.dies(2);
+    laySheet(x, 2, 0, 2, 2);
+    due("two, the last one dead", x.way(2, 0), STATE);
+    laySheet(x, 2, 0, 2, 0);
     dueWay(x, 2, 1);
   }
 
