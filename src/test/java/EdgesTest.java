@@ -1524,6 +1524,12 @@ public final class EdgesTest {
       for (int what : new int[] {-1, 3}) {
         due("moves(" + what + ")", x.moves(what), BEYOND);
       }
+      HostageKings y = withChildren(14, 0, 0, 1);
+      for (int t = 0; t < 12; t++) {
+        y.treaty(0, 1 + t % 5, 3, 9);
+      }
+      dueMoves(y, NONE, NONE, NONE);
+      due("nobody is moved in a full court", y.now(4), 14);
     });
     sentence(28, "(those that are now, too; its HOLDER now, too): the least HOLDER of several.", () -> {
       HostageKings x = withChildren(1, 0, 3, 10);
