@@ -182,11 +182,12 @@ public final class EdgesTest {
     return x;
   }
 
-  /** Months go till it is that one. */
+  /** Months go till it is that one; no longer than that takes, so that the test ends if they don't go. */
   private static void goTo(HostageKings x, int month) {
-    for (int at = x.now(0); at < month; at = x.now(0)) {
+    for (int at = x.now(0); at < month; at += 60) {
       x.months(Math.min(60, month - at));
     }
+    due("now(0)", x.now(0), month);
   }
 
   private static int brokenSet(HostageKings x) {
